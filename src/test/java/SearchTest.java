@@ -41,6 +41,8 @@ public final class SearchTest {
         ForgetStream z = Checks.with("long 4;stream 3;thing a weighs 1 grips 24 minds 2;thing b weighs 1 grips 24 minds 1 lies 0;");
         Checks.no(z, "35: turned already", z.aim(0, 2), 6);
         Checks.ok(z, "35: by any cell", z.aim(0, 1), 0);
+        z.hour(1);
+        Checks.ok(z, "35: in the hour that comes", z.aim(0, 0), 0);
     }
 
     private static void soonest() {
@@ -66,6 +68,10 @@ public final class SearchTest {
         Checks.ok(x, "14: carried", x.thing(0, 3), 2);
         Checks.no(x, "37: it is carried", x.soonestIn(0), 7);
         Checks.ok(x, "14: nothing thrown", x.thing(1, 3), 0);
+        // b goes up to a and down again: beside a it is home as soon as in the sea
+        ForgetStream y = Checks.with("long 4;stream 3;thing a weighs 1 grips 24 minds 1 lies 0;thing b weighs 1 grips 24 minds 4;");
+        Checks.ok(y, "36: cell 0, too", y.soonest(1), 0);
+        Checks.ok(y, "37: with a", y.soonestIn(1), 9);
     }
 
     private static void drives() {
@@ -137,6 +143,31 @@ public final class SearchTest {
         }
         Checks.ok(x, "40: not in 24: neither 24 nor 20", x.minded(0, 2, 20), 22);
         Checks.ok(x, "41: 23", x.mindedAt(0, 2, 20, 1), 23);
+        x.write(1, 0, 24);
+        x.write(1, 1, 1);
+        x.write(1, 2, 20);
+        x.write(1, 3, 0);
+        Checks.ok(x, "41: 24 alone, the least", x.mindedAt(0, 1, 2, 0), 24);
+        Checks.ok(x, "41: 24 alone, the greatest", x.mindedAt(0, 1, 2, 1), 24);
+        x.fetch(0);
+        Checks.ok(x, "42: no hour parts them: the first", x.ask(0, 1, 0), 0);
+        mindsByTheLastHour();
+    }
+
+    /** It goes round for ever, with turns in the last hour that can be asked for, too. */
+    private static void mindsByTheLastHour() {
+        ForgetStream x = Checks.with("long 3;thing a weighs 1 grips 1 minds 1 lies 1;");
+        int due = 0;
+        for (int mind = 1; mind <= 24; mind++) {
+            x.mind(0, mind);
+            due += x.turnsIn(61) - x.turnsIn(60);
+        }
+        x.tray(0, 0, 2);
+        x.write(0, 0, 60);
+        Checks.ok(x, "40: no turn in 60", x.minded(0, 0, 1), 24 - due);
+        x.write(0, 1, 1);
+        Checks.ok(x, "40: a turn in 60", x.minded(0, 0, 1), due);
+        Checks.ok(x, "41: mind 1", x.mindedAt(0, 0, 1, 0), 1);
     }
 
     private static void wrongMinds() {
@@ -277,6 +308,9 @@ public final class SearchTest {
         ForgetStream z = Checks.with("long 3;stream 2;thing z weighs 1 grips 24 minds 6;" + MILLS);
         game(z, 0, 1, 1, 0, 0, 0);
         game(z, 0, 1, 2, 1, 0, 1);
+        // whatever the first does, the second leads it up to its mill in cell 0
+        ForgetStream v = Checks.with(FARMS + "mill p at 2 up;mill q at 0 up;");
+        game(v, 0, 1, 2, -1, 0, 0);
         // a goes round by itself up to the first's mill, b could only help the second: none is best
         ForgetStream w = Checks.with("long 2;load 1;stream 1 up;thing a weighs 1 grips 1 minds 1 lies 0;"
                 + "thing b weighs 1 grips 7 minds 4;mill m at 0 up;mill n at 0 down;");

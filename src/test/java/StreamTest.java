@@ -17,6 +17,7 @@ public final class StreamTest {
         lastHours();
         willBe();
         goesRound();
+        farAhead();
         Checks.end();
     }
 
@@ -220,6 +221,9 @@ public final class StreamTest {
         Checks.ok(x, "22: told", x.thing(0, 1), 24);
         Checks.ok(x, "23: mind", x.mind(0, 24));
         Checks.ok(x, "23: told", x.thing(0, 2), 24);
+        Checks.ok(x, "22: the least grip", x.grip(0, 1));
+        Checks.ok(x, "23: the least mind", x.mind(0, 1));
+        Checks.ok(x, "23: told", x.thing(0, 2), 1);
         Checks.ok(x, "26: odds", x.rule(4, 16));
         Checks.ok(x, "13: odds", x.told(4), 16);
         made();
@@ -306,6 +310,40 @@ public final class StreamTest {
         x.fetch(0);
         Checks.no(x, "29: ashore", x.homeIn(0), 6);
         Checks.ok(x, "33: ashore", x.quietIn(), 0);
+    }
+
+    /** How many hours till a is home, counted hour by hour behind the first 400. */
+    private static int homeBy(String glen) {
+        ForgetStream x = Checks.with(glen);
+        x.hour(160);
+        x.hour(160);
+        x.hour(80);
+        Checks.ok(x, "13: a is not home yet", x.told(12), 0);
+        for (int i = 401; i < 600; i++) {
+            x.hour(1);
+            if (x.told(12) == 1) {
+                return i;
+            }
+        }
+        return 600;
+    }
+
+    /** From 400 hours ahead of home it is seen, from one more it is not; so is a ring from 200. */
+    private static void farAhead() {
+        String glen = "long 14;load 1;thing a weighs 1 grips 3 minds 23 lies 0;";
+        int home = homeBy(glen);
+        ForgetStream x = Checks.with(glen);
+        x.hour(home - 401);
+        Checks.no(x, "29: home in 401", x.homeIn(0), 6);
+        Checks.no(x, "33: quiet in 401", x.quietIn(), 6);
+        x.hour(1);
+        Checks.ok(x, "29: home in 400", x.homeIn(0), 400);
+        Checks.ok(x, "33: quiet in 400", x.quietIn(), 400);
+        x.hour(160);
+        x.hour(40);
+        Checks.no(x, "34: the same only behind 201", x.ring(), 6);
+        x.hour(1);
+        Checks.ok(x, "34: the same behind 200", x.ring(), 1);
     }
 
     private static void goesRound() {

@@ -195,6 +195,9 @@ public final class TextTest {
         glenFault("long 9", 2, 6);
         glenFault("long 9 9;", 2, 7);
         glenFault("long;", 2, 4);
+        glenFault("long 9=", 2, 6);
+        glenFault("long 9>;", 2, 6);
+        glenFault("long 9 59", 2, 7);
         glenFault("; long 9;", 2, 0);
         glenFault("up;", 2, 0);
         glenFault("hour 3;", 2, 0);
@@ -224,6 +227,7 @@ public final class TextTest {
         glenFault("stream 0;stream 0;", 5, 9);
         glenFault("stream 0;long 99;", 5, 9);
         glenFault("mill a at 0 up;long 9;", 5, 15);
+        glenFault("thing t" + THING + "long 9;", 5, 33);
         StringBuilder eight = new StringBuilder();
         for (char name = 'a'; name <= 'h'; name++) {
             eight.append("thing ").append(name).append(THING);
