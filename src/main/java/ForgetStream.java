@@ -1794,7 +1794,7 @@ public final class ForgetStream {
             return rounds[opener] > 0 ? opener + 1 : entry + 1;
         }
 
-        /** The entry that comes behind this one is done; NONE if nothing does. */
+        /** Does a step: the entry that comes next, or NONE if the days are over. */
         private int behindStep(int entry) {
             if (steps >= MOST_STEPS) {
                 left = 1;
@@ -2071,6 +2071,8 @@ public final class ForgetStream {
     /** The game of two farms, each by its mill. */
     private static final class Game {
         private static final int TURN_HOURS = 6;
+        /** In 12 hours a mill grinds 12 times at most. */
+        private static final int BELOW_ANY_LEAD = -100;
 
         /** The lead of the first by best play, with what it does first (NONE: nothing). */
         int best;
@@ -2088,7 +2090,7 @@ public final class ForgetStream {
             mill = first;
             other = second;
             turns = many;
-            best = many == 0 ? 0 : Integer.MIN_VALUE;
+            best = many == 0 ? 0 : BELOW_ANY_LEAD;
             bestThing = NONE;
             bestCell = NONE;
             if (many == 0) {

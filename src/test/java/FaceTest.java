@@ -138,6 +138,10 @@ public final class FaceTest {
         while (banned.find()) {
             check(false, "the source has " + banned.group());
         }
+        Matcher library = Pattern.compile("\\b(Math|Integer|Long)\\.(?!(min|max|bitCount)\\()\\w+").matcher(code);
+        while (library.find()) {
+            check(false, "the library's " + library.group());
+        }
         int begin = -1;
         String[] lines = source.split("\n");
         for (int i = 0; i < lines.length; i++) {
