@@ -16,6 +16,13 @@ final class Checks {
         due(what, got ? 1 : 0, due ? 1 : 0);
     }
 
+    static void same(String what, String got, String due) {
+        if (!got.equals(due)) {
+            wrong++;
+            System.out.println(what + ": there is\n" + got + "due is\n" + due);
+        }
+    }
+
     /** A call that was not to be done, by its answer and its status. */
     static void no(ForgetStream x, String what, long got, int status) {
         due(what, got, ForgetStream.NONE);
