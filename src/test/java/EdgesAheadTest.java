@@ -36,6 +36,7 @@ public final class EdgesAheadTest {
         ringBehindTwoHundred();
         ringByHours();
         ringByEachThing();
+        ringByWhereThingsAre();
         ringIsTheFirst();
         aimAtTheHourThatComes();
         aimAtSixty();
@@ -377,6 +378,25 @@ public final class EdgesAheadTest {
         x.toss(other, 1);
         x.hour(110);
         return x.ring();
+    }
+
+    /**
+     * It slips in 8, is as old there in hour 56 as it was in 0 in hour 7, with the stream in the sea both times, but
+     * that is another cell: only behind hour 89, in which it is home, all is as it was.
+     */
+    private static void ringByWhereThingsAre() {
+        for (int thing = 0; thing < 8; thing++) {
+            ForgetStream x = Checks.with("long 16;stream 15;");
+            for (int i = 0; i < 8; i++) {
+                x.make(1, 10, 24);
+            }
+            x.toss(thing, 0);
+            Checks.ok(x, "34: thing " + thing, x.ring(), 1);
+            Checks.ok(x, "29: thing " + thing, x.homeIn(thing), 89);
+            x.hour(56);
+            Checks.ok(x, "15: thing " + thing, x.cellOf(thing), 8);
+            Checks.ok(x, "14: thing " + thing, x.thing(thing, 4), 7);
+        }
     }
 
     /** It is the first hour that is as one ahead of it, not any. */
